@@ -573,7 +573,7 @@ public final class GuestHouse {
         private final boolean[] storeRow = new boolean[PLACES];
 
         Room roomAt(int p) {
-            return isPlace(p) ? roomRow[p] : null;
+            return p >= 0 && p < PLACES ? roomRow[p] : null;
         }
 
         boolean isEmpty(int p) {
@@ -915,7 +915,10 @@ public final class GuestHouse {
         private final House house;
         private final Book book;
         private final Vacancy vacancy;
+        /** Of the night in hand: who stands and wants it, by number, and whether they are kept. */
+        private final Promise[] wanting = new Promise[MOST_PROMISES];
         private final boolean[] kept = new boolean[MOST_PROMISES];
+        private int wantingCount;
 
         Plan(House house, Book book, Vacancy vacancy) {
             this.house = house;
@@ -924,36 +927,54 @@ public final class GuestHouse {
         }
 
         void makeNight(int n) {
-            vacancy.begin(n);
-            for (int q = 0; q < MOST_PROMISES; q++) {
-                kept[q] = false;
+            gather(n);
+            if (wantingCount == 0) {
+                return;
             }
-            keepThose(n, COME);
-            keepThose(n, FIRM);
-            keepThose(n, HELD);
-            for (int q = 0; q < MOST_PROMISES; q++) {
-                Promise promise = book.at(q);
-                if (promise != null) {
-                    promise.setSpot(n, kept[q] ? spotAgain(promise, n) : NONE);
+            vacancy.begin(n);
+            keepThose(COME);
+            keepThose(FIRM);
+            keepThose(HELD);
+            for (int i = 0; i < wantingCount && i < MOST_PROMISES; i++) {
+                Promise promise = wanting[i];
+                if (promise != null && kept[i]) {
+                    promise.setSpot(n, spotAgain(promise, n));
                 }
             }
-            for (int q = 0; q < MOST_PROMISES; q++) {
-                Promise promise = book.at(q);
-                if (promise != null && kept[q] && promise.spotIn(n) == NONE) {
+            for (int i = 0; i < wantingCount && i < MOST_PROMISES; i++) {
+                Promise promise = wanting[i];
+                if (promise != null && kept[i] && promise.spotIn(n) == NONE) {
                     promise.setSpot(n, promise.want == WANT_SUITE ? firstSuite() : firstUnit(promise.want));
                 }
             }
         }
 
-        private void keepThose(int n, int state) {
-            for (int q = 0; q < MOST_PROMISES; q++) {
+        /** Clears an older plan's spots as well, also of those who do not want the night any more. */
+        private void gather(int n) {
+            wantingCount = 0;
+            for (int q = 0; q < book.size; q++) {
                 Promise promise = book.at(q);
-                if (promise == null || promise.state != state || !promise.covers(n)) {
+                if (promise == null) {
+                    continue;
+                }
+                promise.setSpot(n, NONE);
+                if (promise.stands() && promise.covers(n) && wantingCount < MOST_PROMISES) {
+                    wanting[wantingCount] = promise;
+                    kept[wantingCount] = false;
+                    wantingCount++;
+                }
+            }
+        }
+
+        private void keepThose(int state) {
+            for (int i = 0; i < wantingCount && i < MOST_PROMISES; i++) {
+                Promise promise = wanting[i];
+                if (promise == null || promise.state != state) {
                     continue;
                 }
                 vacancy.addNeed(promise.want);
-                kept[q] = vacancy.fits();
-                if (!kept[q]) {
+                kept[i] = vacancy.fits();
+                if (!kept[i]) {
                     vacancy.dropNeed(promise.want);
                 }
             }
@@ -1058,7 +1079,7 @@ public final class GuestHouse {
 
         int heldRules() {
             int sum = 0;
-            for (int k = 0; k < MOST_RULES; k++) {
+            for (int k = 0; k < ruleCount && k < MOST_RULES; k++) {
                 Rule one = ruleRow[k];
                 sum += one != null && one.holds ? 1 : 0;
             }
@@ -1067,7 +1088,7 @@ public final class GuestHouse {
 
         /** A wish that is without a break from its first night on is only ever against a rule by where it ends. */
         private boolean mayEnd(int to) {
-            for (int k = 0; k < MOST_RULES; k++) {
+            for (int k = 0; k < ruleCount && k < MOST_RULES; k++) {
                 Rule one = ruleRow[k];
                 if (one != null && one.forbidsEnd(to)) {
                     return false;
@@ -1078,7 +1099,7 @@ public final class GuestHouse {
 
         private long costBy(long sum, int length, int ahead) {
             int percent = 100;
-            for (int k = 0; k < MOST_RULES; k++) {
+            for (int k = 0; k < ruleCount && k < MOST_RULES; k++) {
                 Rule one = ruleRow[k];
                 percent += one != null ? one.percentageOf(length, ahead) : 0;
             }

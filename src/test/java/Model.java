@@ -1,6 +1,10 @@
+import java.math.BigInteger;
 import java.util.ArrayList;
+import java.util.Arrays;
 import java.util.List;
 import java.util.NoSuchElementException;
+import java.util.Set;
+import java.util.TreeSet;
 
 /**
  * A second, slow house, written from the document's words alone: it lists every spot, pairs promises with rooms by a
@@ -237,7 +241,7 @@ final class Model {
 
     static int pairing(List<Integer> wants, List<Spot> spots, boolean[] used) {
         int[] hadBy = new int[spots.size()];
-        java.util.Arrays.fill(hadBy, -1);
+        Arrays.fill(hadBy, -1);
         int sum = 0;
         for (int i = 0; i < wants.size(); i++) {
             if (augment(i, wants, spots, used, hadBy, new boolean[spots.size()])) {
@@ -311,7 +315,7 @@ final class Model {
         }
         kept.sort(null);
         int[] has = new int[guests.size()];
-        java.util.Arrays.fill(has, -1);
+        Arrays.fill(has, -1);
         for (int q : kept) {
             if (before[q] == -1) {
                 continue;
@@ -421,7 +425,7 @@ final class Model {
         g.to = to;
         g.till = till;
         g.price = least(want, from, to, 0);
-        java.util.Arrays.fill(g.had, -1);
+        Arrays.fill(g.had, -1);
         guests.add(g);
         return guests.size() - 1;
     }
@@ -543,7 +547,7 @@ final class Model {
             return 0;
         }
         int[] now = nightSpots(n);
-        java.util.Set<Integer> seen = new java.util.TreeSet<>();
+        Set<Integer> seen = new TreeSet<>();
         for (int q = 0; q < now.length; q++) {
             if (a <= q && q <= b && now[q] != -1) {
                 seen.add(floor[now[q] / 32]);
@@ -619,9 +623,9 @@ final class Model {
         if (!isWish(want, from, to)) {
             return -1;
         }
-        java.math.BigInteger sum = java.math.BigInteger.ZERO;
+        BigInteger sum = BigInteger.ZERO;
         for (int n = from; n < to; n++) {
-            sum = sum.add(java.math.BigInteger.valueOf(prices[want][n]));
+            sum = sum.add(BigInteger.valueOf(prices[want][n]));
         }
         long percent = 100;
         for (int[] r : rules) {
@@ -641,7 +645,7 @@ final class Model {
         if (percent < 0) {
             return 0;
         }
-        return sum.multiply(java.math.BigInteger.valueOf(percent)).divide(java.math.BigInteger.valueOf(100)).longValue();
+        return sum.multiply(BigInteger.valueOf(percent)).divide(BigInteger.valueOf(100)).longValue();
     }
 
     long least(int want, int from, int to, int what) {

@@ -3,7 +3,7 @@ import java.util.Random;
 
 /** Random runs of calls on the house and on the slow model: each answer must be the same. */
 public final class ModelTest {
-    private static final int RUNS = 700;
+    private static final int RUNS = 2000;
     private static final int CALLS = 512;
     private static final long THROWN = Long.MIN_VALUE;
     private static int wrong = 0;
@@ -40,7 +40,8 @@ public final class ModelTest {
     /** Mostly a number 0 .. n - 1, now and then one at or behind the edges. */
     private int near(int n) {
         int dice = below(40);
-        return dice == 0 ? -1 : dice == 1 ? n : dice == 2 ? Integer.MAX_VALUE : dice == 3 ? Integer.MIN_VALUE : below(n);
+        int[] odd = {-1, n, Integer.MAX_VALUE, Integer.MIN_VALUE};
+        return dice < odd.length ? odd[dice] : below(n);
     }
 
     private int from() {
@@ -70,7 +71,9 @@ public final class ModelTest {
     private boolean step(int dice) {
         if (dice < 5) {
             int kind = below(3) == 0 ? near(4) : 1;
-            return roomCall(near(places), kind, below(3) == 0 ? near(10) : 2, 2 + near(5), below(3) == 0 ? near(61) : 60);
+            int floor = below(3) == 0 ? near(10) : 2;
+            int nights = below(3) == 0 ? near(61) : 60;
+            return roomCall(near(places), kind, floor, 2 + near(5), nights);
         }
         if (dice < 40) {
             return bookCall(dice);

@@ -14,6 +14,9 @@ public final class PlanTest {
         lacks();
         rooms();
         roomsOfThePast();
+        plannedAnew();
+        theLastNight();
+        spotOfThePast();
         Check.end();
     }
 
@@ -30,6 +33,19 @@ public final class PlanTest {
         x.promise(2, 1, 0, 1, -1);
         Check.due("the Double is left too", x.spot(2, 0), 64);
         Check.due("the Single", x.spot(0, 0), 96);
+        x = new GuestHouse();
+        x.room(0, 2, 0, 0, 60);
+        x.room(1, 2, 0, 0, 60);
+        x.room(2, 0, 0, 0, 60);
+        x.room(3, 0, 0, 0, 60);
+        x.promise(1, 1, 0, 1, -1);
+        x.promise(1, 1, 0, 1, -1);
+        x.promise(3, 1, 0, 1, -1);
+        x.promise(2, 1, 0, 1, -1);
+        Check.due("two Grounds are needed", x.spot(0, 0), 64);
+        Check.due("for others", x.spot(1, 0), 96);
+        Check.due("the ground's", x.spot(2, 0), 0);
+        Check.due("the double's", x.spot(3, 0), 32);
     }
 
     private static void whoSuitsWhere() {
@@ -303,6 +319,68 @@ public final class PlanTest {
         Check.due("night 60", x.rooms(0, 60, 0), -1);
         Check.due("what -1", x.rooms(0, 0, -1), -1);
         Check.due("what 2", x.rooms(0, 0, 2), -1);
+    }
+
+    /** Each change is asked behind an answer of the plan ahead of it. */
+    private static void plannedAnew() {
+        GuestHouse x = new GuestHouse();
+        x.room(0, 1, 0, 0, 60);
+        x.room(1, 1, 0, 0, 60);
+        x.over(5);
+        x.promise(4, 1, 0, 3, -1);
+        Check.due("no door", x.spot(0, 2), -1);
+        x.door(0);
+        Check.due("night 0 with a door", x.spot(0, 0), 1);
+        Check.due("night 2 with a door", x.spot(0, 2), 1);
+        x.close(1);
+        Check.due("closed", x.spot(0, 0), -1);
+        x.open(1, 60);
+        Check.due("night 0, opened", x.spot(0, 0), 1);
+        Check.due("night 2, opened", x.spot(0, 2), 1);
+        x.close(0);
+        Check.due("night 0, closed", x.spot(0, 0), -1);
+        x.open(0, 60);
+        x.promise(2, 1, 5, 6, -1);
+        Check.due("night 5", x.spot(1, 5), 0);
+        x.change(1, 4, 5);
+        Check.due("changed to an earlier night", x.spot(1, 4), 0);
+        Check.due("and not there any more", x.spot(1, 5), -1);
+        x.change(1, 5, 6);
+        Check.due("changed to a later night", x.spot(1, 5), 0);
+        Check.due("and not there any more", x.spot(1, 4), -1);
+        x.cancel(1);
+        Check.due("cancelled", x.spot(1, 5), -1);
+        x.promise(2, 1, 7, 9, -1);
+        Check.due("night 8", x.spot(2, 8), 0);
+        x.shut(0, 8, 9, true);
+        Check.due("night 7 stays", x.spot(2, 7), 0);
+        Check.due("night 8 is shut", x.spot(2, 8), 32);
+        Check.due("a move", x.moves(), 1);
+        x.next();
+        Check.due("who missed", x.spot(0, 1), -1);
+    }
+
+    private static void theLastNight() {
+        GuestHouse x = new GuestHouse();
+        x.room(0, 0, 0, 0, 59);
+        x.room(1, 0, 0, 0, 60);
+        x.promise(1, 1, 58, 60, -1);
+        Check.due("a move from 58 to 59", x.moves(), 1);
+        Check.due("night 59", x.spot(0, 59), 32);
+    }
+
+    private static void spotOfThePast() {
+        GuestHouse x = new GuestHouse();
+        x.room(0, 0, 0, 0, 60);
+        x.next();
+        x.next();
+        x.promise(1, 1, 2, 4, -1);
+        Check.due("ahead of its time", x.spot(0, 0), -1);
+        Check.due("ahead of its time", x.spot(0, 1), -1);
+        x.come(0);
+        x.next();
+        Check.promised(x, 0, 7, 1);
+        Check.promised(x, 0, 8, 0);
     }
 
     private static void roomsOfThePast() {

@@ -129,6 +129,9 @@ public final class PriceTest {
         Check.due("one day ahead", x.cost(0, 2, 3), 100);
         Check.due("two days ahead", x.cost(0, 3, 4), 50);
         Check.due("ahead of the day", x.cost(0, 0, 4), -1);
+        x.next();
+        Check.due("parts begin days ahead of their own", x.least(0, 2, 6, 0), 300);
+        Check.due("all but the first two nights", x.least(0, 2, 6, 1), 2);
     }
 
     private static void costNotAsTold() {
