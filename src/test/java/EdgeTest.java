@@ -7,7 +7,7 @@ public final class EdgeTest {
         Integer.MAX_VALUE - 1, Integer.MAX_VALUE,
     };
     /** No number of these is a place, night, promise, kind, want or what, nor makes a span. */
-    private static final int[] WRONG = {Integer.MIN_VALUE, -33, -2, 61, 64, 1000, Integer.MAX_VALUE};
+    private static final String[] WRONG = {"MIN", "-33", "-2", "61", "64", "1000", "MAX"};
 
     public static void main(String[] args) {
         for (int state = 0; state < 4; state++) {
@@ -18,37 +18,25 @@ public final class EdgeTest {
     }
 
     /** 0 new, 1 with rooms and promises, 2 the same, full, 3 at the last day. */
-    private static GuestHouse made(int state) {
-        GuestHouse x = new GuestHouse();
+    private static String made(int state) {
         if (state == 0) {
-            return x;
+            return "";
         }
-        for (int p = 0; p < 6; p++) {
-            x.room(p, 1, p / 2, 0, 60);
-        }
-        x.room(6, 3, 0, 6, 60);
-        x.room(7, 2, 0, 6, 60);
-        x.store(8);
-        x.door(0);
-        x.door(2);
-        x.over(state == 2 ? 40 : 1);
-        x.price(2, 0, 60, 10);
-        x.rule(0, 3, -10);
+        StringBuilder run = new StringBuilder("room 0 1 0 0 60; room 1 1 0 0 60; room 2 1 1 0 60; room 3 1 1 0 60;"
+            + "room 4 1 2 0 60; room 5 1 2 0 60; room 6 3 0 6 60; room 7 2 0 6 60; store 8; door 0; door 2;"
+            + "price 2 0 60 10; rule 0 3 -10;");
+        run.append(state == 2 ? "over 40;" : "over 1;");
         for (int q = 0; q < (state == 2 ? 40 : 8); q++) {
-            x.promise(q % 5, 1, q % 3, 5, q % 2 == 0 ? -1 : 3);
+            run.append("promise ").append(q % 5).append(" 1 ").append(q % 3).append(" 5 ");
+            run.append(q % 2 == 0 ? -1 : 3).append(';');
         }
-        x.come(0);
-        x.next();
-        for (int d = 0; state == 3 && d < 60; d++) {
-            x.next();
-        }
-        return x;
+        return run + "come 0; next;" + (state == 3 ? "next;".repeat(58) : "");
     }
 
     private static void everyCall(int state) {
         int thrown = 0;
         for (int a : ODD) {
-            GuestHouse x = made(state);
+            GuestHouse x = Told.played(Call.run(made(state)), 0);
             for (int b : ODD) {
                 try {
                     twoNumbers(x, a, b);
@@ -109,60 +97,52 @@ public final class EdgeTest {
     }
 
     private static void refusedChangesNothing(int state) {
-        GuestHouse x = made(state);
-        String before = told(x);
-        for (int w : WRONG) {
-            x.room(w, 0, 0, 0, 60);
-            x.room(15, w, 0, 2, 60);
-            x.room(15, 0, w, 0, 60);
-            x.room(15, 0, 0, 0, w);
-            x.room(15, 3, 0, w, 60);
-            x.store(w);
-            x.door(w);
-            x.shut(w, 0, 60, true);
-            x.shut(0, w, 60, true);
-            x.shut(0, 0, w, true);
-            x.open(w, 1);
-            x.open(0, w);
-            x.close(w);
-            x.promise(w, 1, 59, 60, -1);
-            x.promise(2, w, 59, 60, -1);
-            x.promise(2, 1, w, 60, -1);
-            x.promise(2, 1, 59, w, -1);
-            x.firm(w);
-            x.cancel(w);
-            x.change(w, 59, 60);
-            x.change(3, w, 60);
-            x.change(3, 59, w);
-            x.come(w);
-            x.over(w);
-            x.price(w, 0, 60, 5);
-            x.price(2, w, 60, 5);
-            x.price(2, 0, w, 5);
-            x.price(2, 0, 60, w < 0 ? w : 1000001);
-            x.rule(w, 1, 0);
-            x.rule(0, w, 5);
-            x.rule(0, 1, w < 0 ? -101 : 301);
-            x.drop(w);
-            Check.notPromised(x, w, 0);
-            Check.notPromised(x, 0, w);
+        Stand stand = Stand.with(made(state));
+        for (String w : WRONG) {
+            for (String call : refusedWith(w).split("; *")) {
+                stand.refuses(call, due(call));
+            }
         }
-        Check.yes("state " + state + " is as it was", told(x).equals(before));
     }
 
-    private static String told(GuestHouse x) {
-        StringBuilder text = new StringBuilder();
-        for (int k = 0; k < 60; k++) {
-            for (int what = 0; what < 9; what++) {
-                text.append(x.look(k, what)).append(' ').append(x.count(what)).append(' ');
-                text.append(k < x.count(4) ? x.promised(k, what) : 0).append(' ');
-                text.append(x.cost(what, k, k + 1)).append(' ').append(x.least(what, k, 60, 0)).append(' ');
-            }
-            for (int n = 0; n < 60; n++) {
-                text.append(x.night(k, n)).append(' ').append(x.spot(k, n)).append(' ');
-            }
-            text.append(x.lacks(k)).append('\n');
+    private static String refusedWith(String w) {
+        return ("room W 0 0 0 60; room 15 W 0 2 60; room 15 0 W 0 60; room 15 0 0 0 W; room 15 3 0 W 60; store W; door W;"
+            + "shut W 0 60 1; shut 0 W 60 1; shut 0 0 W 1; open W 1; open 0 W; close W;"
+            + "promise W 1 59 60 -1; promise 2 W 59 60 -1; promise 2 1 W 60 -1; promise 2 1 59 W -1;"
+            + "can W 1 59 60; can 2 W 59 60; can 2 1 W 60; can 2 1 59 W; firm W; cancel W; change W 59 60; come W;"
+            + "promised W 0; promised 0 W; spot W 59; spot 0 W; lacks W; rooms W 59 0; rooms 0 W 0; rooms 0 59 W;"
+            + "over W; price W 0 60 5; price 2 W 60 5; price 2 0 W 5; rule W 1 0; rule 0 W 5; rule 2 W 5; drop W;"
+            + "cost W 59 60; cost 2 W 60; cost 2 59 W; least W 59 60 0; least 2 W 60 0; least 2 59 W 0; least 2 59 60 W;"
+            + "look W 0; night 0 W; count W").replace("W", w);
+    }
+
+    /** What a call answers whose number is not as told. */
+    private static long due(String call) {
+        switch (call.substring(0, call.indexOf(' '))) {
+            case "room":
+            case "store":
+            case "door":
+            case "close":
+            case "firm":
+            case "cancel":
+            case "come":
+            case "over":
+            case "price":
+            case "drop":
+                return 0;
+            case "can":
+                return 1;
+            case "change":
+                return 6;
+            case "promise":
+            case "look":
+                return -2;
+            case "night":
+                return -4;
+            case "promised":
+                return Call.THROWN;
+            default:
+                return -1;
         }
-        return text.append(x.moves()).toString();
     }
 }
