@@ -27,6 +27,7 @@ public final class HouseEdgesTest {
         close();
         look();
         night();
+        theLastCall();
         Check.end();
     }
 
@@ -49,6 +50,7 @@ public final class HouseEdgesTest {
         made.refuses("promise 0 1 0 1 -1", -4);
         made.refuses("drop 0", 0);
         made.does("rule 0 1 1", 0);
+        made.and("rule 0 1 1").tells("count 7", 1);
         made.and("room 0 0 0 0 1").does("promise 1 1 0 1 -1", 0);
     }
 
@@ -61,6 +63,7 @@ public final class HouseEdgesTest {
             stand.refuses("room MAX 0 0 0 60", 0);
         }
         Stand.with("").does("room 0 0 0 0 60", 1);
+        Stand.with("room 0 0 0 0 60").tells("count 1", 1);
         HOUSE.does("room 8 0 0 0 60", 1);
         HOUSE.refuses("room 0 0 1 0 60", 0);
         HOUSE.refuses("room 5 0 0 0 60", 0);
@@ -127,6 +130,8 @@ public final class HouseEdgesTest {
 
     private static void store() {
         Stand.with("").does("store 0", 1);
+        Stand.with("store 0").tells("count 2", 1);
+        Stand.with("store 0; store 15").tells("count 2", 2);
         HOUSE.does("store 15", 1);
         HOUSE.does("store 8", 1);
         HOUSE.refuses("store 16", 0);
@@ -266,6 +271,8 @@ public final class HouseEdgesTest {
         ten.does("shut 8 9 10 1", 1);
         ten.tells("shut 8 10 11 1", 0);
         ten.tells("shut 8 10 60 1", 0);
+        ten.tells("shut 8 11 60 1", 0);
+        ten.tells("shut 8 59 60 1", 0);
         ten.does("shut 8 9 60 1", 1);
         ten.does("shut 8 0 60 1", 10);
         Stand later = ten.and("shut 8 0 60 1; open 8 5");
@@ -275,6 +282,7 @@ public final class HouseEdgesTest {
         later.tells("night 8 15", -1);
         later.does("shut 8 0 60 0", 10);
         HOUSE.and("room 8 0 0 0 0").tells("shut 8 0 60 1", 0);
+        HOUSE.and("room 8 0 0 0 0").tells("shut 8 1 60 1", 0);
     }
 
     private static void shutWhere() {
@@ -413,5 +421,15 @@ public final class HouseEdgesTest {
         // the nights that are over stay as they are asked for
         HOUSE.days(2).tells("night 0 0", 1);
         HOUSE.days(2).does("shut 0 0 1 1", 1);
+    }
+
+    /** The 512th call is the last that must be answered rightly. */
+    private static void theLastCall() {
+        String run = "room 0 0 0 0 60; promise 1 1 0 3 -1;" + "come 0; next; shut 0 0 60 1; shut 0 0 60 0; moves;".repeat(101)
+            + "look 0 0; look 0 0; look 0 0; look 0 0";
+        GuestHouse x = Told.played(Call.run(run), 1);
+        Check.due("the 512th call", Call.of("promised 0 7").on(x), 3);
+        x = Told.played(Call.run(run), 1);
+        Check.due("the 512th call", Call.of("shut 0 0 60 1").on(x), 60);
     }
 }

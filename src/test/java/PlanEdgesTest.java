@@ -18,7 +18,9 @@ public final class PlanEdgesTest {
         keptThoughMoreCouldBe();
         again();
         againUnlessNeeded();
+        againInASuite();
         againOnTheDay();
+        anew();
         firstInOrder();
         moves();
         movesAtTheEnds();
@@ -154,6 +156,14 @@ public final class PlanEdgesTest {
         three.and("come 2; come 0").tells("spot 0 0", 0);
         three.and("cancel 1; cancel 2").tells("spot 0 0", 0);
         three.and("cancel 1").tells("spot 2 0", 0);
+        // who has a spot the night before, but is held, leaves it to who is firm
+        Stand later = Stand.with("over 1; room 0 0 0 0 60; promise 1 1 0 2 9; promise 1 1 1 2 -1");
+        later.tells("spot 0 0", 0);
+        later.tells("spot 0 1", -1);
+        later.tells("spot 1 1", 0);
+        later.tells("moves", 0);
+        later.and("come 0").tells("spot 0 1", 0);
+        later.and("come 0").tells("spot 1 1", -1);
     }
 
     private static void keptByNumber() {
@@ -247,6 +257,28 @@ public final class PlanEdgesTest {
         suite.and("change 1 3 4").tells("moves", 0);
     }
 
+    /** A suite is had again while both its rooms are open. */
+    private static void againInASuite() {
+        Stand two = Stand.with("room 0 1 0 0 60; room 1 1 0 0 60; room 2 1 0 0 60; room 3 1 0 0 60; door 0; door 2;"
+            + "promise 4 1 0 3 -1");
+        two.tells("spot 0 1", 1);
+        for (int p = 0; p < 2; p++) {
+            Stand shut = two.and("shut " + p + " 1 2 1");
+            shut.tells("spot 0 0", 1);
+            shut.tells("spot 0 1", 65);
+            shut.tells("spot 0 2", 65);
+            shut.tells("moves", 1);
+        }
+        two.and("shut 2 1 2 1; shut 3 1 2 1").tells("moves", 0);
+        two.and("shut 1 1 2 1; shut 3 1 2 1").tells("spot 0 1", -1);
+        // one half is had by somebody who stays
+        Stand half = Stand.with("room 0 1 0 0 60; room 1 1 0 0 60; room 2 1 0 0 60; room 3 1 0 0 60; door 0; door 2;"
+            + "shut 0 0 1 1; promise 2 1 0 3 -1; promise 4 1 1 3 -1");
+        half.tells("spot 0 1", 32);
+        half.tells("spot 1 1", 65);
+        half.tells("rooms 1 1 1", 3);
+    }
+
     /** In the night of the day: who had a spot the night before, not who was planned to. */
     private static void againOnTheDay() {
         Stand two = Stand.with("room 0 0 0 0 60; room 1 0 0 0 60; promise 1 1 0 3 -1; promise 1 1 0 3 -1; come 1");
@@ -261,6 +293,34 @@ public final class PlanEdgesTest {
         over.and("close 0").days(1).tells("promised 1 8", 1);
         over.and("close 0").days(1).tells("moves", 0);
         over.and("close 0; open 0 60").tells("spot 1 1", 0);
+    }
+
+    /** Whatever changes, the plan is as it would be without having been asked ahead: in the first night, in the last. */
+    private static void anew() {
+        for (int n : new int[] {0, 1, 59}) {
+            String night = n + " " + (n + 1);
+            Stand.with("over 1; promise 1 1 " + night + " -1").does("room 3 0 0 0 60", 1);
+            Stand one = Stand.with("over 1; room 0 0 0 0 60; room 1 1 0 0 60; room 2 1 0 0 60; room 3 0 0 0 " + n
+                + "; promise 1 1 " + night + " -1; promise 4 1 " + night + " 0");
+            one.does("door 1", 1);
+            one.does("close 0", 1);
+            one.does("shut 0 " + night + " 1", 1);
+            one.and("close 0; close 1; close 2").does("open 3 1", n + 1);
+            one.and("close 0; close 1; close 2; close 3").does("open 3 60", 60);
+            one.and("shut 0 0 60 1").does("shut 0 " + night + " 0", 1);
+            one.does("promise 1 1 " + night + " -1", 2);
+            one.does("cancel 0", 1);
+            one.and("over 9; close 1; close 2; close 3; cancel 0; promise 1 1 " + night + " 0; promise 1 1 " + night
+                + " 0").does("firm 3", 1);
+            one.does("change 0 30 31", 0);
+            one.and("change 0 30 31").does("change 0 " + night, 0);
+        }
+        Stand day = Stand.with("over 1; room 0 0 0 0 60; promise 1 1 0 2 -1; promise 1 1 0 2 -1");
+        day.does("come 1", 1);
+        day.does("next", 0);
+        day.and("come 1").does("next", 0);
+        day.and("come 0; come 1").does("next", 1);
+        Stand.with("over 1; room 0 0 0 0 60; promise 1 1 1 2 0; promise 1 1 1 2 9").does("next", 0);
     }
 
     private static void firstInOrder() {
@@ -283,6 +343,19 @@ public final class PlanEdgesTest {
         tight.tells("spot 0 0", 0);
         tight.tells("spot 1 0", 32);
         tight.tells("spot 2 0", 65);
+        // behind a suite the Doubles that are left are fewer by two: the single leaves the last one to the double
+        Stand behind = Stand.with("room 0 1 0 0 60; room 1 1 0 0 60; room 2 1 0 0 60; room 3 0 0 0 60; door 0;"
+            + "promise 4 1 0 1 -1; promise 1 1 0 1 -1");
+        behind.tells("spot 1 0", 64);
+        behind.and("promise 2 1 0 1 -1").tells("spot 1 0", 96);
+        behind.and("promise 2 1 0 1 -1").tells("spot 2 0", 64);
+        // a spot that the first could not have is left to those behind it
+        Stand left = Stand.with("room 0 2 0 0 60; room 1 1 0 0 60; room 2 1 0 0 60; room 3 0 0 0 60;"
+            + "promise 2 1 0 1 -1; promise 1 1 0 1 -1; promise 2 1 0 1 -1; promise 3 1 0 1 -1");
+        left.tells("spot 0 0", 32);
+        left.tells("spot 1 0", 96);
+        left.tells("spot 2 0", 64);
+        left.tells("spot 3 0", 0);
     }
 
     private static void moves() {
@@ -398,6 +471,12 @@ public final class PlanEdgesTest {
         two.tells("lacks 0", 1);
         two.and("room 1 0 0 0 60").tells("lacks 0", 0);
         two.and("room 1 3 0 2 60").tells("lacks 0", 1);
+        // a Ground is had by one of them alone
+        Stand both = Stand.with("over 40; promise 3 1 0 1 -1; promise 2 1 0 1 -1; room 0 2 0 0 60");
+        both.tells("lacks 0", 1);
+        both.and("room 1 0 0 0 60").tells("lacks 0", 1);
+        both.and("room 1 1 0 0 60").tells("lacks 0", 0);
+        both.and("room 1 2 0 0 60").tells("lacks 0", 0);
     }
 
     private static void lacksBySuites() {

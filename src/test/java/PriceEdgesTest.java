@@ -382,6 +382,15 @@ public final class PriceEdgesTest {
         same.tells("least 2 0 5 1", 2);
         same.tells("least 2 0 8 1", 2);
         same.tells("least 2 0 9 1", 3);
+        // 0 .. 3 and 4 cost 99 and 40; 0, 1 and 2 .. 4 cost 100, 9 and 30: as much, with one part more
+        Stand tie = Stand.with("price 2 0 1 100; price 2 1 2 10; price 2 4 5 100; rule 1 1 -10; rule 1 2 -50; rule 0 3 -10");
+        tie.tells("cost 2 0 4", 99);
+        tie.tells("cost 2 4 5", 40);
+        tie.tells("cost 2 0 1", 100);
+        tie.tells("cost 2 1 2", 9);
+        tie.tells("cost 2 2 5", 30);
+        tie.tells("least 2 0 5 0", 139);
+        tie.tells("least 2 0 5 1", 2);
     }
 
     private static void leastNoWay() {

@@ -25,10 +25,12 @@ final class Stand {
         return and("next;".repeat(ends));
     }
 
-    /** The call answers so, and other calls show that something has changed. */
+    /** The call answers so, and other calls show that something has changed, the same if the plan was asked ahead. */
     void does(String text, long due) {
         answers(text, due, 1);
-        Check.no(text + " changed nothing", before().differs(told(text)).isEmpty());
+        Told now = told(text);
+        Check.no(text + " changed nothing", before().differs(now).isEmpty());
+        same(text + " if asked ahead", now.differs(told("moves; " + text)));
     }
 
     /** The call answers so, also a second time, and no other call shows anything of it. */
@@ -52,11 +54,14 @@ final class Stand {
     }
 
     private void changesNothing(String text) {
-        String other = before().differs(told(text));
+        same(text + " changed nothing", before().differs(told(text)));
+    }
+
+    private void same(String what, String other) {
         if (!other.isEmpty()) {
-            System.out.println("behind " + run + " changed " + other);
+            System.out.println("behind " + run + " is other: " + other);
         }
-        Check.yes(text + " changed nothing", other.isEmpty());
+        Check.yes(what, other.isEmpty());
     }
 
     private Told before() {
